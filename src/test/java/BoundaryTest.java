@@ -1,6 +1,7 @@
 // A case for each sentence of the document that names a boundary: too small, too large, empty, full,
-// a wrap-around, a refused call. A case bears the words it tests and makes its own objects, so that a
-// broken sentence is told by name. No object here gets more than the 512 calls for which the document speaks.
+// a wrap-around, a refused call. A case bears the words it tests, at times with the side of them that it
+// looks at, and makes its own objects, so that a broken sentence is told by name. No object here gets more
+// than the 512 calls for which the document speaks.
 public final class BoundaryTest {
     private static final int MIN = Integer.MIN_VALUE;
     private static final int MAX = Integer.MAX_VALUE;
@@ -35,7 +36,7 @@ public final class BoundaryTest {
 
     // A case that throws is one wrong answer, and the cases after it still run.
     private static void at(String place, String sentence, Runnable test) {
-        words = place + ", \"" + sentence + "\"";
+        words = place + ", " + sentence;
         cases++;
         try {
             test.run();
